@@ -25,8 +25,8 @@ public final class GameLoom {
     private static final int MOST_PLAYER = 3;
     private static final int MOST_MATCHES = 20;
     private static final int MOST_WAYS = 3000;
-    /** Six MOVES with at most 84 pairs of CELLS next to each other on the widest board. */
-    private static final int MOST_LISTED = 512;
+    /** The widest board has 42 pairs of CELLS next to each other, each good for one move of a MOVE. */
+    private static final int MOST_LISTED = 256;
 
     private static final int PUT = 0;
     private static final int STEP = 1;
@@ -1040,6 +1040,7 @@ public final class GameLoom {
             return count;
         }
 
+        /** It asks done itself, and not side(), so that the calls from measure stay eight deep. */
         private int addMoves(int k, int[] into, int before) {
             Rule rule = game.moves[k];
             int count = before;
@@ -1146,8 +1147,9 @@ public final class GameLoom {
             int from = move >>> 8 & 255;
             int to = move & 255;
             int kind = game.moves[move >>> 16].kind;
-            int own = side() == 0 ? a : b;
-            int other = side() == 0 ? b : a;
+            boolean ofA = side() == 0;
+            int own = ofA ? a : b;
+            int other = ofA ? b : a;
             own |= 1 << to;
             if (kind != PUT) {
                 own &= ~(1 << from);
@@ -1160,8 +1162,8 @@ public final class GameLoom {
             if (kind == PUSH) {
                 other |= game.board.bitBehind(from, to);
             }
-            a = side() == 0 ? own : other;
-            b = side() == 0 ? other : own;
+            a = ofA ? own : other;
+            b = ofA ? other : own;
         }
 
         private boolean holds(Rule rule, int mover, boolean lacking) {
@@ -1374,15 +1376,14 @@ public final class GameLoom {
             int z = seed;
             position.begin(game);
             for (int i = 0; i < MOST_MOVES && position.state == GOES_ON; i++) {
+                int count = position.listMoves(listed);
                 int player = position.side() == 0 ? a : b;
                 int chosen = 0;
                 if (player == 0) {
                     z = nextLot(z);
-                    chosen = drawnFrom(z, position.listMoves(listed));
-                } else {
-                    boolean spent = looker.isSpent(position, player);
-                    chosen = spent ? 0 : looker.bestOf(position, player);
-                    position.listMoves(listed);
+                    chosen = drawnFrom(z, count);
+                } else if (!looker.isSpent(position, player)) {
+                    chosen = looker.bestOf(position, player);
                 }
                 used[listed[chosen] >>> 16]++;
                 position.make(listed[chosen]);
