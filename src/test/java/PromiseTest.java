@@ -1,93 +1,5 @@
 /** Each promise by itself: ordinary inputs, the edges that the document names, wrong inputs. */
-public final class PromiseTest {
-    private static final String ROWS = "b33;p0;r3w.";
-    private static final String FIRST_WINS = "b22;p0;k2w.";
-    private static final String FOUR_MOVES = "b22;p0;m04.";
-    private static final String THREE_MOVES = "b22;p0;m03.";
-    private static final String FULL_BOARD = "b22;p0;k9w.";
-    private static final String ENDLESS = "b33;iaxxxxxxxb;so;k9w.";
-    private static final String FORK = "b33;iaaxbbxxxx;p0;r3w.";
-
-    private static int wrong = 0;
-    private static int asked = 0;
-
-    private static void due(String what, int got, int want) {
-        asked++;
-        if (got != want) {
-            wrong++;
-            System.out.println(what + " answered " + got + ", due is " + want);
-        }
-    }
-
-    private static void feedAll(GameLoom x, String text) {
-        for (int i = 0; i < text.length(); i += 8) {
-            int n = Math.min(8, text.length() - i);
-            long bytes = 0;
-            for (int j = 0; j < n; j++) {
-                bytes |= (long) text.charAt(i + j) << 8 * j;
-            }
-            x.feed(n, bytes);
-        }
-    }
-
-    private static int enter(GameLoom x, String text) {
-        feedAll(x, text);
-        return x.game();
-    }
-
-    private static GameLoom with(String... texts) {
-        GameLoom x = new GameLoom();
-        for (int i = 0; i < texts.length; i++) {
-            due("game " + texts[i], enter(x, texts[i]), i);
-        }
-        return x;
-    }
-
-    private static GameLoom playing(String text, int... moves) {
-        GameLoom x = with(text);
-        x.start(0);
-        for (int i = 0; i < moves.length; i++) {
-            due(text + " play", x.play(moves[i]), i + 1);
-        }
-        return x;
-    }
-
-    private static void dueMoves(String text, int... moves) {
-        GameLoom x = with(text);
-        due(text + " start", x.start(0), moves.length);
-        due(text + " move(-1)", x.move(-1), moves.length);
-        for (int i = 0; i < moves.length; i++) {
-            due(text + " move " + i, x.move(i), moves[i]);
-        }
-        due(text + " move none", x.move(moves.length), -9);
-    }
-
-    private static void dueCells(GameLoom x, String cells) {
-        for (int c = 0; c < cells.length(); c++) {
-            due("cell " + c + " of " + cells, x.cell(c), "xab".indexOf(cells.charAt(c)));
-        }
-    }
-
-    /** A text, the one move that is done, how it ended, who won, by which END. */
-    private static void dueEnd(String text, int move, int state, int winner, int end) {
-        GameLoom x = playing(text, move);
-        due(text + " state(2)", x.state(2), state);
-        due(text + " state(3)", x.state(3), winner);
-        due(text + " state(4)", x.state(4), end);
-    }
-
-    private static void dueText(GameLoom x, int game, String text) {
-        due("length of " + text, x.of(game, 4), text.length());
-        for (int i = 0; i < text.length(); i++) {
-            due("letter " + i + " of " + text, x.letter(game, i), text.charAt(i));
-        }
-        due("behind " + text, x.letter(game, text.length()), -9);
-    }
-
-    private static GameLoom full(String first) {
-        return with(first, ROWS, FIRST_WINS, FOUR_MOVES, THREE_MOVES, FULL_BOARD, ENDLESS, FORK);
-    }
-
+public final class PromiseTest extends Checks {
     public static void main(String[] args) {
         newObject();
         feed();
@@ -121,11 +33,7 @@ public final class PromiseTest {
         keepAndNiche();
         count();
         orderOfRefusals();
-        System.out.println("PromiseTest: " + (wrong == 0 ? "all of " + asked + " answers are as due"
-            : wrong + " of " + asked + " answers are not as due"));
-        if (wrong != 0) {
-            System.exit(1);
-        }
+        finish("PromiseTest");
     }
 
     private static void newObject() {
@@ -167,16 +75,6 @@ public final class PromiseTest {
         due("feed above 90", x.feed(1, 0), -6);
         due("feed below first", x.feed(0, 0), -4);
         due("a high byte is a byte", new GameLoom().feed(1, 255), 1);
-    }
-
-    private static void fault(String text, int place) {
-        GameLoom x = new GameLoom();
-        due("game of " + text, enter(x, text), -20 - place);
-        due("no game of " + text, x.count(0), 0);
-        due("text is gone: " + text, x.count(1), 0);
-        for (int r = 11; r <= 16; r++) {
-            due("nothing is counted: " + text, x.count(r), 0);
-        }
     }
 
     private static void gameFaults() {
@@ -588,25 +486,6 @@ public final class PromiseTest {
         }
     }
 
-    /** A MATCH done by hand in THE PLAY. */
-    private static int replay(GameLoom x, int game, int a, int b, int seed) {
-        int z = seed;
-        int count = x.start(game);
-        while (x.state(2) == 0) {
-            int player = x.state(1) == 0 ? a : b;
-            int chosen;
-            if (player == 0) {
-                z = z * 1103515245 + 12345;
-                chosen = (z >>> 8) % count;
-            } else {
-                chosen = Math.max(0, x.best(player));
-            }
-            x.play(chosen);
-            count = x.move(-1);
-        }
-        return 10 * x.state(0) + x.state(3);
-    }
-
     private static void match() {
         GameLoom x = with(FIRST_WINS, THREE_MOVES, "b22;p0;k2l.", "b22;ibbbb;p0;gw.", FULL_BOARD, ENDLESS, ROWS,
             "b44;p0,sq;r4w,m12.");
@@ -840,8 +719,8 @@ public final class PromiseTest {
         due("one of two wins", with("b22;iabxx;p0;yw.").puzzle(0, 3, 1), 0);
         for (int seed = 0; seed < 30; seed++) {
             for (int n = 1; n <= 4; n++) {
-                due("puzzle by hand", x.puzzle(2, seed, n), byHand(seed, n, true));
-                due("blunder by hand", x.blunder(2, seed, n), byHand(seed, n, false));
+                due("puzzle by hand", x.puzzle(2, seed, n), byHand(ROWS, seed, n, true));
+                due("blunder by hand", x.blunder(2, seed, n), byHand(ROWS, seed, n, false));
             }
         }
         GameLoom y = with("b22;iaaax;p0;k4w.");
@@ -856,36 +735,6 @@ public final class PromiseTest {
         due("n 0", x.puzzle(0, 3, 0), -4);
         due("n 5", x.puzzle(0, 3, 5), -6);
         due("puzzle starts no play", x.count(2), -9);
-    }
-
-    /** The first puzzle or blunder of a MATCH, done in THE PLAY. */
-    private static int byHand(int seed, int n, boolean puzzle) {
-        GameLoom x = playing(ROWS);
-        int z = seed;
-        while (x.state(2) == 0) {
-            int moves = x.move(-1);
-            int winning = 0;
-            boolean spent = x.ways(n) < 0;
-            for (int i = 0; i < moves && !spent; i++) {
-                winning += leavesLost(x, i, n) ? 1 : 0;
-            }
-            z = z * 1103515245 + 12345;
-            int chosen = (z >>> 8) % moves;
-            boolean blunder = winning > 0 && !leavesLost(x, chosen, n);
-            if (puzzle ? moves > 1 && winning == 1 : blunder) {
-                return x.state(0);
-            }
-            x.play(chosen);
-        }
-        return -9;
-    }
-
-    private static boolean leavesLost(GameLoom x, int i, int n) {
-        int mover = x.state(1);
-        x.play(i);
-        boolean lost = x.state(2) == 0 ? x.look(n - 1) == 0 : x.state(3) == mover;
-        x.back();
-        return lost;
     }
 
     private static void blunder() {
@@ -950,11 +799,6 @@ public final class PromiseTest {
             due("keep 1", y.keep(1, seed), second);
             due("keep 2", y.keep(2, seed), worth(y, 2, seed) > worth(y, second, seed) ? 2 : second);
         }
-    }
-
-    private static int worth(GameLoom x, int game, int z) {
-        return 10 * Math.min(x.measure(game, 10, z, 0, 0), x.measure(game, 10, z, 0, 1))
-            + x.measure(game, 10, z, 0, 3) / 10;
     }
 
     private static void count() {
