@@ -1,5 +1,6 @@
 import java.nio.file.Files;
 import java.nio.file.Path;
+import java.util.TreeSet;
 
 /** What the tests of single answers share: texts, ways to enter and play them, and what is due. */
 abstract class Checks {
@@ -25,6 +26,7 @@ abstract class Checks {
     private static String document = null;
     private static String sentence = "";
     private static int sentences = 0;
+    private static final TreeSet<Integer> places = new TreeSet<>();
     private static int wrong = 0;
     private static int asked = 0;
 
@@ -32,9 +34,20 @@ abstract class Checks {
     static void sentence(String words) {
         sentence = "\"" + words + "\": ";
         sentences++;
-        if (!document().isEmpty() && !document().contains(words)) {
+        int place = document().indexOf(words);
+        places.add(place);
+        if (!document().isEmpty() && place < 0) {
             wrong++;
             System.out.println("the document does not say: " + words);
+        }
+    }
+
+    /** Each promise has a sentence that was told. */
+    static void everyPromiseIsQuoted() {
+        for (int k = 1; k <= 30 && !document().isEmpty(); k++) {
+            int from = document().indexOf("## Promise " + k + ":");
+            int behind = document().indexOf("\n## ", from);
+            due("a sentence of promise " + k, places.subSet(from, behind).isEmpty() ? 0 : 1, 1);
         }
     }
 

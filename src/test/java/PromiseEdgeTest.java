@@ -50,6 +50,7 @@ public final class PromiseEdgeTest extends Checks {
         niche();
         count();
         fiveHundredAndTwelve();
+        everyPromiseIsQuoted();
         finish("PromiseEdgeTest");
     }
 
@@ -238,16 +239,20 @@ public final class PromiseEdgeTest extends Checks {
 
     private static void game() {
         sentence("The TEXT, which has none then, becomes a GAME: its number;");
+        GameLoom x = new GameLoom();
         for (int i = 0; i < 8; i++) {
-            GameLoom x = full(PAIRS);
+            feedAll(x, SIX_PUTS);
+            due("its text", x.count(1), SIX_PUTS.length());
+            due("its number", x.game(), i);
             due("its text is gone", x.count(1), 0);
+            due("so many games", x.count(0), i + 1);
         }
 
         sentence("or, if it has a FAULT, -20 less its place (nothing is counted).");
-        answered(-20, NEW, x -> x.game());
-        answered(-20, NEW, x -> enter(x, "z"));
-        answered(-21, NEW, x -> enter(x, "b"));
-        answered(-90, NEW, x -> enter(x, LONGEST + times("z", 20)));
+        answered(-20, NEW, n -> n.game());
+        answered(-20, NEW, n -> enter(n, "z"));
+        answered(-21, NEW, n -> enter(n, "b"));
+        answered(-90, NEW, n -> enter(n, LONGEST + times("z", 20)));
         GameLoom y = with(ROWS);
         due("a fault", enter(y, "b32;p0;nw"), -29);
         due("has none then", y.count(1), 0);
@@ -255,9 +260,21 @@ public final class PromiseEdgeTest extends Checks {
         due("again empty", y.game(), -20);
         due("another text", enter(y, SIX_PUTS), 1);
 
+        sentence("becomes a GAME: its number; or, if it has a FAULT,");
+        for (int i = 0; i < LONGEST.length(); i++) {
+            afterFault(LONGEST.substring(0, i));
+        }
+        for (int size = 0; size < 9; size++) {
+            afterFault("b" + (2 + size / 3) + (2 + size % 3) + ";z");
+        }
+        afterFault("b22;iabab;tq,uq,hq,so;r9w.");
+        afterFault("b44;p7;k0w.");
+        afterFault("b22;p0;nw,gw,yl,k9l,m0z");
+        afterFault("b44;ibbbbbbbbbbbbbbbb;sq!,sq!;m99,r4l,r4l,r4l,z");
+
         sentence("-6 8. (Refused: it stays.)");
-        refused(-6, CROWDED, x -> x.game());
-        refused(-6, () -> full(ROWS), x -> x.game());
+        refused(-6, CROWDED, c -> c.game());
+        refused(-6, () -> full(ROWS), c -> c.game());
         GameLoom z = full(ROWS);
         feedAll(z, "zzz");
         due("with a fault", z.game(), -6);
@@ -265,6 +282,24 @@ public final class PromiseEdgeTest extends Checks {
         due("and can be added to", z.feed(1, 'z'), 4);
         GameLoom w = with(ROWS, ROWS, ROWS, ROWS, ROWS, ROWS, ROWS);
         due("the eighth is a game", enter(w, ROWS), 7);
+    }
+
+    /** What was read ahead of a FAULT leaves no trace in the GAME that comes then. */
+    private static void afterFault(String faulty) {
+        for (String text : new String[] {SIX_PUTS, "b23;p0;yw,r3l.", "b33;p2,so;r3w,k3d,gl."}) {
+            GameLoom x = new GameLoom();
+            due("a fault in " + faulty, enter(x, faulty) <= -20 ? 1 : 0, 1);
+            due("a game behind it", enter(x, text), 0);
+            GameLoom y = with(text);
+            due("what is seen of " + text, seen(x).equals(seen(y)) ? 1 : 0, 1);
+            due("its first moves", x.start(0), y.start(0));
+            due("its first move", x.move(0), y.move(0));
+            dueText(x, 0, text);
+            for (int what : new int[] {0, 1, 2, 3, 10, 20}) {
+                due("its matches", x.measure(0, 20, 1, 0, what), y.measure(0, 20, 1, 0, what));
+            }
+            due("its board", x.state(5), 0);
+        }
     }
 
     private static void of() {
@@ -859,6 +894,14 @@ public final class PromiseEdgeTest extends Checks {
         answered(90, FULL_TEXT, x -> x.count(1));
         answered(60, () -> sixty(), x -> x.count(2));
         answered(0, playOf("b22;ibbbb;p0;nw."), x -> x.count(2));
+
+        sentence("(the call answers the number, the first that fits in the order in which it tells them;");
+        refused(-1, CROWDED, x -> x.change(8, 99, -1));
+        refused(-2, SPENT, x -> x.pie(0, 5, 3));
+        refused(-3, ENDED, x -> x.look(-1));
+        refused(-4, CROWDED, x -> x.change(0, 0, -1));
+        refused(-5, SPENT, x -> x.kin(1, 0, 4));
+        refused(-6, SPENT, x -> x.kin(1, 0, 7));
 
         sentence("11 .. 16 REFUSALS -1 .. -6. -9 for another what.");
         GameLoom y = crowded();

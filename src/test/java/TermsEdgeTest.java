@@ -377,6 +377,34 @@ public final class TermsEdgeTest extends Checks {
         dueEnd("b43;iaaaxxxxxxxxx;p0;r4w.", 0, 1, 0, 0);
         dueEnd("b34;iaxxxaxxxaxxx;p0;r4w.", 8, 0, -9, -9);
         dueEnd("b33;ibbbxxxxxx;p0;r3w.", 0, 0, -9, -9);
+        for (int w = 2; w <= 4; w++) {
+            for (int h = 2; h <= 4; h++) {
+                for (int c = 0; c < w * h; c++) {
+                    rowsFrom(w, h, c);
+                }
+            }
+        }
+    }
+
+    /** Each row of 2 to 4 that begins on a CELL, with that CELL left for a PUT. */
+    private static void rowsFrom(int w, int h, int c) {
+        for (int d = 0; d < 9; d++) {
+            int dy = d / 3 - 1;
+            int dx = d % 3 - 1;
+            StringBuilder begin = new StringBuilder(times("x", w * h));
+            for (int n = 2; d != 4 && inside(w, h, c / w + (n - 1) * dy, c % w + (n - 1) * dx); n++) {
+                begin.setCharAt(c + (n - 1) * (dy * w + dx), 'a');
+                String head = board(w, h) + "i" + begin + ";p0;r";
+                GameLoom x = with(head + n + "w.");
+                x.start(0);
+                x.play(placeOf(x, 9900 + c));
+                dueEnded(begin + " and " + c, x, 1, 0, 0);
+                GameLoom y = with(head + Math.min(4, n + 1) + "w.");
+                y.start(0);
+                y.play(placeOf(y, 9900 + c));
+                due(begin + " and " + c + " for one more", y.state(2) == 1 ? 1 : 0, n == 4 ? 1 : 0);
+            }
+        }
     }
 
     private static void lacks() {
@@ -527,6 +555,7 @@ public final class TermsEdgeTest extends Checks {
         sentence("of a seventh MOVE, END its first; a digit out of its range its own)");
         fault("b22;p0,p0,p0,p0,p0,p0,z", 22);
         fault("b22;p0,p0,p0,p0,p0,p0,p", 22);
+        fault("b22;p0,p0,p0,p0,p0,p0,nw.", 22);
         fault("b22;p0;nw,nw,nw,nw,nw,nw,z", 25);
         fault("b22;p0;nw,nw,nw,nw,nw,nw,n", 25);
         fault("b92;p0;nw.", 1);
@@ -616,6 +645,7 @@ public final class TermsEdgeTest extends Checks {
             due("its matches are stuck", x.measure(0, 20, 1, 0, 5), 20);
             due("and drawn", x.measure(0, 20, 1, 0, 2), 20);
             due("and have no moves", x.measure(0, 20, 1, 0, 3), 0);
+            due("the longest neither", x.measure(0, 20, 1, 0, 6), 0);
         }
         GameLoom y = with("b22;iaaxx;p0;m00,k1w,r2w,yw,gw.");
         due("no END is asked at the beginning", y.start(0), 2);
@@ -741,6 +771,7 @@ public final class TermsEdgeTest extends Checks {
         due("best at 3001", y.best(3), -5);
         due("kin at 3001", y.kin(0, 0, 3), -5);
         due("fewer are not", y.look(2), 2);
+        due("3000 together, and more to come", playing("b44;iaxaxaaxxxxxaaxxx;p0,p0;r3w.").ways(3), -5);
         due("nor are none", playing("b44;p0,p0,p0,p0,p0,p0;m60.").look(0), 1);
     }
 
@@ -845,6 +876,15 @@ public final class TermsEdgeTest extends Checks {
         }
         due("the longest of 20", x.measure(0, 20, Integer.MAX_VALUE - 9, 0, 6), longest);
         due("won by B of 20", x.measure(0, 20, Integer.MAX_VALUE - 9, 0, 1), wonByB);
+        due("7 by A", x.measure(0, 10, 7, 0, 0), 7);
+        due("2 by B", x.measure(0, 10, 7, 0, 1), 2);
+        due("1 drawn", x.measure(0, 10, 7, 0, 2), 1);
+        GameLoom y = with(ENDLESS, "b22;p0;m02.", ROWS);
+        due("the longest has 60", y.measure(0, 2, 1, 0, 6), 60);
+        due("and does not last", y.measure(1, 2, 1, 0, 6), 2);
+        due("nor do the moves", y.measure(1, 2, 1, 0, 3), 4);
+        y.measure(2, 20, 7, 0, 0);
+        due("nor do the wins", y.measure(1, 2, 1, 0, 0) + y.measure(1, 2, 1, 0, 1), 0);
     }
 
     private static void dueUnfair(String text, int z, int wonByA, int wonByB, boolean unfair) {
@@ -924,7 +964,14 @@ public final class TermsEdgeTest extends Checks {
         due("as by hand", y.distance(0, 1, 3), 10 + 1);
         due("without the last it is the same", y.whatFor(0, 1, 3), 0);
         due("no other MOVE", y.whatFor(2, 0, 3), -9);
-        due("nor END, but that is no matter", y.whatFor(0, 2, 3), -1);
+        due("no third MOVE", y.whatFor(0, 2, 3), -1);
+        GameLoom z = with("b33;iaxxxxxxxb;so,tq;gw,m40.", "b33;p3,sq;r3w,nl,m40.");
+        int without = z.drop(0, 1, false);
+        int unput = z.drop(1, 1, false);
+        for (int seed : SEEDS) {
+            due("as by hand from " + seed, z.whatFor(0, 1, seed), z.distance(0, without, seed));
+            due("as by hand without a BEGIN", z.whatFor(1, 1, seed), z.distance(1, unput, seed));
+        }
     }
 
     private static void grown() {
@@ -1110,11 +1157,26 @@ public final class TermsEdgeTest extends Checks {
         due("57 are 5", z.keep(1, 0), 0);
         due("wins of one side are none", z.keep(2, 0), 0);
         due("60 are 6", z.keep(1, 5), 1);
-        GameLoom w = with("b33;iaxxxxxxxb;so;m60.", "b23;p0;yw.", "b32;p0;r2d.", ROWS);
-        due("worth 60", worth(w, 0, 0), 60);
-        due("as the wins are", worth(w, 3, 0), 10 * Math.min(w.measure(3, 10, 0, 0, 0), w.measure(3, 10, 0, 0, 1))
-            + w.measure(3, 10, 0, 0, 3) / 10);
-        due("kept with 60", w.keep(0, 0), 0);
-        due("fewer moves and wins", w.keep(3, 0), worth(w, 3, 0) > 60 ? 3 : 0);
+        worthOfRows();
+    }
+
+    /** Worth 37 from 3: 3 times 10, and 75 moves; as a GAME of 37 moves that is always drawn. */
+    private static void worthOfRows() {
+        GameLoom x = with(ROWS);
+        due("the wins of A", x.measure(0, 10, 3, 0, 0), 4);
+        due("the wins of B", x.measure(0, 10, 3, 0, 1), 3);
+        due("the moves", x.measure(0, 10, 3, 0, 3), 75);
+        for (int worth = 36; worth <= 38; worth++) {
+            String drawn = "b33;iaxxxxxxxb;so;m" + worth + ".";
+            GameLoom y = with(ROWS, drawn);
+            y.keep(0, 3);
+            due("37, then " + worth, y.keep(1, 3), worth > 37 ? 1 : 0);
+            GameLoom z = with(ROWS, drawn);
+            z.keep(1, 3);
+            due(worth + ", then 37", z.keep(0, 3), worth < 37 ? 0 : 1);
+            GameLoom w = with("b33;p0;r3l.", drawn);
+            w.keep(0, 3);
+            due("the lesser of both is the same", w.keep(1, 3), worth > 37 ? 1 : 0);
+        }
     }
 }
