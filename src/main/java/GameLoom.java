@@ -1289,6 +1289,10 @@ public final class GameLoom {
 
         /** LOOK n of the side to move; it does not ask if that is SPENT. */
         int valueOf(Position from, int n) {
+            return deepen(from, n);
+        }
+
+        private int deepen(Position from, int n) {
             if (from.state != GOES_ON) {
                 return from.winner == DRAWN ? 1 : from.winner == from.side() ? 2 : 0;
             }
@@ -1302,7 +1306,7 @@ public final class GameLoom {
             int greatest = 0;
             for (int i = 0; i < count && greatest < 2; i++) {
                 from.make(row[i]);
-                greatest = Math.max(greatest, 2 - valueOf(from, n - 1));
+                greatest = Math.max(greatest, 2 - deepen(from, n - 1));
                 from.unmake(a, b);
             }
             return greatest;
@@ -1320,7 +1324,7 @@ public final class GameLoom {
             int least = 3;
             for (int i = 0; i < count && least > 0; i++) {
                 from.make(row[i]);
-                int value = valueOf(from, n - 1);
+                int value = deepen(from, n - 1);
                 from.unmake(a, b);
                 if (value < least) {
                     least = value;

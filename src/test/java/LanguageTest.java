@@ -110,11 +110,20 @@ public final class LanguageTest {
             Matcher m = Pattern.compile(word, Pattern.CASE_INSENSITIVE).matcher(code);
             check(!m.find(), "the source has " + word);
         }
-        methodLengths(code);
+        methods(code);
+    }
+
+    private static void recursion(String[] lines, int from, int to) {
+        String name = lines[from].replaceAll("\\(.*", "").replaceAll(".* ", "");
+        Pattern itself = Pattern.compile("(?<![.\\w])" + name + "\\(");
+        for (int i = from + 1; i < to; i++) {
+            check(!itself.matcher(lines[i]).find() || lines[from].contains("private "),
+                "calls itself and is not private: " + lines[from]);
+        }
     }
 
     /** By the indent of the brace that closes a method. */
-    private static void methodLengths(String code) {
+    private static void methods(String code) {
         String[] lines = code.split("\n");
         int from = -1;
         for (int i = 0; i < lines.length; i++) {
@@ -124,6 +133,7 @@ public final class LanguageTest {
             if (from >= 0 && lines[i].matches("( {4}| {8})\\}")
                 && lines[i].indexOf('}') == lines[from].length() - lines[from].stripLeading().length()) {
                 check(i - from < 60, "a method of " + (i - from + 1) + " lines: " + lines[from]);
+                recursion(lines, from, i);
                 from = -1;
             }
         }
